@@ -1,0 +1,52 @@
+import java.util.Random;
+
+/** Drawn laws, good and bad, read and asked by LateMinutes and by Plain. */
+public final class LawAgainstPlainTest {
+    public static void main(String[] args) {
+        int runs = args.length > 0 ? Integer.parseInt(args[0]) : 600;
+        for (long seed = 1; seed <= runs; seed++) {
+            String wrong = run(new Random(seed));
+            if (wrong != null) {
+                System.out.println("seed " + seed + ": " + wrong);
+                System.exit(1);
+            }
+        }
+        System.out.println(runs + " times 60 drawn laws are read and asked as by the plain model");
+    }
+
+    private static String run(Random random) {
+        LateMinutes is = new LateMinutes();
+        Plain due = new Plain();
+        LawTexts texts = new LawTexts(random);
+        for (int m = 0; m < 2; m++) {
+            int minute = 500 + 100 * m;
+            is.meeting(3, minute, 15);
+            due.meeting(3, minute, 15);
+            for (int p = 0; p < 4; p++) {
+                int coming = minute + 5 * random.nextInt(20) - 20;
+                is.came(m, p, coming);
+                due.came(m, p, coming);
+            }
+        }
+        is.worth(1, 10, 7);
+        due.worth(1, 10, 7);
+        for (int i = 0; i < 60; i++) {
+            String text = random.nextInt(3) == 0 ? texts.bad() : texts.good();
+            for (int[] w : LawTexts.words(text)) {
+                is.feed(w[0], w[1], w[2], w[3], w[4]);
+                due.feed(w);
+            }
+            int read = is.law(text.length());
+            int dueRead = due.law(text.length());
+            if (read != dueRead) return text + " read as " + read + ", due is " + dueRead;
+            for (int k = 0; k < 16; k++) {
+                int m = random.nextInt(2);
+                int what = random.nextInt(3);
+                int got = is.owes(m, k / 4, k % 4, what);
+                int want = due.owes(m, k / 4, k % 4, what);
+                if (got != want) return due.law + " owes " + m + " " + k + " " + what + " is " + got + ", due is " + want;
+            }
+        }
+        return null;
+    }
+}
