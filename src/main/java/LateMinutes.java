@@ -1424,13 +1424,16 @@ public final class LateMinutes {
 
         private long costOfBoth(Meeting a, Meeting b, int p, int stay, int start, int state, int price) {
             long sum = 0;
+            long next = 0;
+            int left = Integer.MIN_VALUE;
             for (int end = 0; end < endsOf(p); end++) {
                 int coming = start + takes(p, end, state);
                 int leaving = Math.max(coming, a.minute) + stay;
+                // By all ends that are in time he leaves at the same minute.
+                if (leaving != left) next = costOfWay(b, p, leaving, state, price);
+                left = leaving;
                 // The first coming costs the same with each end of the second way.
-                long cost = weightsOf(p) * costOfComing(a, p, coming, price)
-                    + costOfWay(b, p, leaving, state, price);
-                sum += weightOf(p, end) * cost;
+                sum += weightOf(p, end) * (weightsOf(p) * costOfComing(a, p, coming, price) + next);
             }
             return sum;
         }

@@ -240,6 +240,11 @@ public final class PromisesTest {
         longest.insert(1, '2');
         due("200 bytes", law(x, longest.toString()), 1);
         due("o", x.owes(0, 0, 1, 0), 21 + 96);
+        longest.insert(1, '2');
+        feed(x, longest.toString());
+        due("201 bytes", x.law(201), -1);
+        due("the tape stays", x.count(4), 220);
+        due("200 of them", x.law(200), -1200);
         StringBuilder fourteen = new StringBuilder("o1(1=1)");
         for (int i = 1; i < 14; i++) fourteen.append(";o1(1=1)");
         due("14 clauses", law(x, fourteen.toString()), 14);
@@ -1097,8 +1102,19 @@ public final class PromisesTest {
         due("in time for the first", x.outTwo(0, 1, 0, 60, 9), 40);
         due("late for the second at any rate", x.outTwo(0, 1, 0, 200, 9), 40);
         due("free of price: late for both", x.outTwo(0, 1, 0, 0, 0), 0);
+        LateMinutes y = new LateMinutes();
+        y.meeting(0, 700, 3);
+        y.meeting(0, 1439, 3);
+        y.end(0, 300, 1);
+        y.crosses(0, true);
+        y.bridge(1, 1, 300);
+        due("600", y.outTwo(0, 1, 0, 0, 99), 600);
+        y.bridge(1, 1, 301);
+        due("600 at most", y.outTwo(0, 1, 0, 0, 99), 600);
+        for (int h = 0; h < 24; h++) y.worth(0, h, 0);
+        due("of like ones the least", y.outTwo(0, 1, 0, 0, 0), 0);
         x.worth(0, 11, 99);
-        // By 40 he comes at 600 and 660 + his 40: early by nothing; later out costs him no waiting at the first.
+        // By 10 he is 30 behind for the first one and just in time for the second; any earlier he waits at 11.
         due("waiting at 11 is dear", x.outTwo(0, 1, 0, 30, 1), 10);
     }
 
