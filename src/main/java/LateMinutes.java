@@ -1100,13 +1100,15 @@ public final class LateMinutes {
 
         /** The most that y can gain: the dearest hours first, as far as notes last till their days. */
         long callIn(int y, int days, int now, People people) {
-            for (int d = 0; d <= days && d < free.length; d++) free[d] = sumOf(NONE, y, now + d);
+            // Behind the last of all days there is none on which minutes could be taken.
+            int last = Math.min(days, DAYS - 1 - now);
+            for (int d = 0; d <= last && d < free.length; d++) free[d] = sumOf(NONE, y, now + d);
             long gain = 0;
             for (int worth = MOST_WORTH; worth > 0 && free[0] > 0; worth--) {
                 for (int hour = 0; hour < HOURS; hour++) {
                     if (people.worthAt(y, hour) != worth) continue;
                     int room = HOUR_MINUTES - people.takenIn(y, hour);
-                    for (int d = 0; d <= days && d < free.length; d++) {
+                    for (int d = 0; d <= last && d < free.length; d++) {
                         gain += (long) worth * useOn(d, d == 0 ? room : HOUR_MINUTES);
                     }
                 }
@@ -1425,7 +1427,7 @@ public final class LateMinutes {
         private long costOfBoth(Meeting a, Meeting b, int p, int stay, int start, int state, int price) {
             long sum = 0;
             long next = 0;
-            int left = Integer.MIN_VALUE;
+            int left = NONE;
             for (int end = 0; end < endsOf(p); end++) {
                 int coming = start + takes(p, end, state);
                 int leaving = Math.max(coming, a.minute) + stay;

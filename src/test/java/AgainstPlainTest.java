@@ -74,6 +74,14 @@ public final class AgainstPlainTest {
         tellLaw(law);
         is.law(law.length());
         due.law(law.length());
+        if (some(3) == 0) startLate();
+    }
+
+    /** Some runs stand at the end of all days. */
+    private void startLate() {
+        int start = 93 + some(7);
+        is.now(start);
+        due.now(start);
     }
 
     private void tellLaw(String text) {

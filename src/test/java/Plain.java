@@ -486,18 +486,20 @@ final class Plain {
         if (!in(y, 0, 7) || !in(days, 0, 6)) return -1;
         List<Note> mine = new ArrayList<>();
         for (Note n : living()) if (n.holder == y) mine.add(n);
-        int slots = 24 * (days + 1);
+        int many = 0;
+        while (many <= days && now + many <= 99) many++;
+        int slots = 24 * many;
         int first = 2 + mine.size();
         Flow flow = new Flow(first + slots);
         for (int i = 0; i < mine.size(); i++) {
             flow.edge(0, 2 + i, mine.get(i).minutes, 0);
-            for (int d = 0; d <= days; d++) {
+            for (int d = 0; d < many; d++) {
                 for (int h = 0; h < 24; h++) {
                     if (lasts(mine.get(i), now + d)) flow.edge(2 + i, first + d * 24 + h, 100000, 0);
                 }
             }
         }
-        for (int d = 0; d <= days; d++) {
+        for (int d = 0; d < many; d++) {
             for (int h = 0; h < 24; h++) flow.edge(first + d * 24 + h, 1, d == 0 ? 60 - took[y][h] : 60, -worth[y][h]);
         }
         return -flow.leastCost();

@@ -822,6 +822,31 @@ public final class PromisesTest {
         y.worth(2, 8, 2);
         due("0 gives to 1", y.take(0, 30, 8), 0);
         due("that is not counted for 2", y.called(2, 0), 60);
+        calledOnTheLastDays();
+    }
+
+    private static void calledOnTheLastDays() {
+        LateMinutes x = new LateMinutes();
+        for (int h = 0; h < 24; h++) x.worth(1, h, 0);
+        x.worth(1, 9, 1);
+        note(x, 0, 1, 1000);
+        for (int now = 90; now < 100; now++) {
+            yes("now " + now, x.now(now));
+            for (int days = 0; days < 7; days++) {
+                int left = Math.min(days + 1, 100 - now);
+                due("now " + now + ", days " + days, x.called(1, days), 60 * left);
+            }
+        }
+        due("taken on the last day", x.take(0, 20, 9), 980);
+        due("the hour of the last day has 40 left", x.called(1, 6), 40);
+        law(x, "o90(x=0&y=1);l1(1=1)");
+        met(x, 99, 600, 3, 600, 600);
+        due("settled on the last day", x.settle(1), 1);
+        due("it lapses from day 100 on", x.noteIs(1, 4), 100);
+        due("both are live on the last day", x.called(1, 6), 40);
+        x.worth(1, 10, 2);
+        due("the dearer hour, too", x.called(1, 6), 60 * 2 + 40);
+        due("refused on the last day, too", x.called(1, 7), -1);
     }
 
     private static void struckRound() {

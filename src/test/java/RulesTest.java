@@ -82,7 +82,7 @@ public final class RulesTest {
         String source = Files.readString(Path.of("src/main/java/LateMinutes.java"));
         String code = source.replaceAll("(?s)/\\*.*?\\*/", "").replaceAll("//[^\n]*", "");
         String[] words = {"throw", "throws", "try", "catch", "synchronized", "assert", "->", "::", "\"", "System",
-            "Exact", "protected", "interface", "Thread", "Random", "Object", "instanceof"};
+            "Exact", "MIN_VALUE", "MAX_VALUE", "protected", "interface", "Thread", "Random", "Object", "instanceof"};
         for (String w : words) {
             boolean isName = Character.isLetter(w.charAt(0));
             Matcher m = Pattern.compile(isName ? "\\b" + w + "\\b" : Pattern.quote(w)).matcher(code);
