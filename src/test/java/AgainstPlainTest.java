@@ -12,6 +12,8 @@ public final class AgainstPlainTest {
     private final Plain due = new Plain();
     private final LawTexts texts;
     private int day;
+    // An object is promised for 512 calls; each is counted where its answer is compared, or where it is made.
+    private int calls;
 
     private AgainstPlainTest(long seed) {
         random = new Random(seed);
@@ -19,12 +21,12 @@ public final class AgainstPlainTest {
     }
 
     public static void main(String[] args) {
-        int runs = args.length > 0 ? Integer.parseInt(args[0]) : 400;
+        int runs = args.length > 0 ? Integer.parseInt(args[0]) : 700;
         long first = args.length > 1 ? Long.parseLong(args[1]) : 1;
         for (long seed = first; seed < first + runs; seed++) {
             AgainstPlainTest run = new AgainstPlainTest(seed);
             run.setUp();
-            for (int i = 0; i < 440; i++) {
+            for (int i = 0; run.calls < 480; i++) {
                 String wrong = run.step();
                 if (wrong != null) {
                     System.out.println("seed " + seed + " call " + i + ": " + wrong);
@@ -58,6 +60,7 @@ public final class AgainstPlainTest {
     }
 
     private String differs(String call, long is, long due) {
+        calls++;
         return is == due ? null : call + " answered " + is + ", due is " + due;
     }
 
@@ -68,12 +71,14 @@ public final class AgainstPlainTest {
                 int weight = 1 + some(20);
                 is.end(p, minutes, weight);
                 due.end(p, minutes, weight);
+                calls++;
             }
         }
         String law = texts.good();
         tellLaw(law);
         is.law(law.length());
         due.law(law.length());
+        calls += 2;
         if (some(3) == 0) startLate();
     }
 
@@ -87,7 +92,9 @@ public final class AgainstPlainTest {
     private void tellLaw(String text) {
         is.check(0);
         due.check(0);
+        calls++;
         for (int[] w : LawTexts.words(text)) {
+            calls++;
             is.feed(w[0], w[1], w[2], w[3], w[4]);
             due.feed(w);
         }
@@ -96,6 +103,7 @@ public final class AgainstPlainTest {
     private String fours() {
         is.check(0);
         due.check(0);
+        calls++;
         int fours = 0;
         int[] tape = new int[100];
         for (int i = 0; i < due.notes.size() && fours < 25; i++) {
@@ -108,6 +116,7 @@ public final class AgainstPlainTest {
         }
         if (some(2) == 0) tape[some(100)]++;
         for (int i = 0; i < (4 * fours + 4) / 5; i++) {
+            calls++;
             int[] w = java.util.Arrays.copyOfRange(tape, 5 * i, 5 * i + 5);
             is.feed(w[0], w[1], w[2], w[3], w[4]);
             due.feed(w);

@@ -3,7 +3,7 @@ import java.util.Random;
 /** Drawn laws, good and bad, read and asked by LateMinutes and by Plain. */
 public final class LawAgainstPlainTest {
     public static void main(String[] args) {
-        int runs = args.length > 0 ? Integer.parseInt(args[0]) : 600;
+        int runs = args.length > 0 ? Integer.parseInt(args[0]) : 2000;
         for (long seed = 1; seed <= runs; seed++) {
             String wrong = run(new Random(seed));
             if (wrong != null) {
@@ -11,7 +11,7 @@ public final class LawAgainstPlainTest {
                 System.exit(1);
             }
         }
-        System.out.println(runs + " times 60 drawn laws are read and asked as by the plain model");
+        System.out.println(runs + " times 18 drawn laws are read and asked as by the plain model");
     }
 
     private static String run(Random random) {
@@ -30,7 +30,8 @@ public final class LawAgainstPlainTest {
         }
         is.worth(1, 10, 7);
         due.worth(1, 10, 7);
-        for (int i = 0; i < 60; i++) {
+        // More would be more than the 512 calls that an object is promised for.
+        for (int i = 0; i < 18; i++) {
             String text = random.nextInt(3) == 0 ? texts.bad() : texts.good();
             for (int[] w : LawTexts.words(text)) {
                 is.feed(w[0], w[1], w[2], w[3], w[4]);
