@@ -644,9 +644,7 @@ public final class LateMinutes {
         private void readPiece(int open) {
             int sign = sign();
             if (sign == '!') {
-                if (!opens(open)) return;
-                readPiece(open + 1);
-                next.emit('!');
+                readDenied(open);
                 return;
             }
             if (sign == '(') {
@@ -664,6 +662,12 @@ public final class LateMinutes {
             place++;
             readSum(open);
             next.emit(comparison);
+        }
+
+        private void readDenied(int open) {
+            if (!opens(open)) return;
+            readPiece(open + 1);
+            next.emit('!');
         }
 
         /** Terms with + or - between; each is emitted as soon as its factors are. */

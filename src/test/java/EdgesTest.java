@@ -499,6 +499,7 @@ public final class EdgesTest extends Asked {
         due("one more than it has", x.take(1, 41, 23), -1);
         due("all that it has", x.take(1, 40, 23), 0);
         due("all that it has", x.take(2, 40, 23), 0);
+        hoursOfTheFirst();
         hoursOfTheLast();
         hoursOfTheNextDay();
         LateMinutes y = new LateMinutes();
@@ -541,6 +542,22 @@ public final class EdgesTest extends Asked {
             due("in another hour", x.take(2, 60, other), 40);
             due("6 gave 60 in it", x.take(3, 1, other), -1);
         }
+    }
+
+    private static void hoursOfTheFirst() {
+        LateMinutes x = new LateMinutes();
+        law(x, "o100(x>y)");
+        met(x, 0, 600, 7, 600, 600, 600);
+        due("1 to 0, 2 to 0, 2 to 1", x.settle(0), 3);
+        due("0 takes 60 at 0", x.take(0, 60, 0), 40);
+        due("0 takes no more", x.take(1, 1, 0), -1);
+        due("called, 60 less", x.called(0, 0), 140);
+        due("2 gives 1 59 at 0", x.take(2, 59, 0), 41);
+        due("2 gives 1 60 at 0", x.take(2, 1, 0), 40);
+        due("2 gives no more", x.take(2, 1, 0), -1);
+        for (int h = 1; h < 24; h++) x.worth(0, h, 0);
+        due("nothing left at 0", x.called(0, 0), 0);
+        due("60 on the next day", x.called(0, 1), 60);
     }
 
     private static void hoursOfTheNextDay() {
@@ -1193,12 +1210,16 @@ public final class EdgesTest extends Asked {
     }
 
     private static void tell(LateMinutes x, int notes, int change) {
+        tell(x, notes, change, 256);
+    }
+
+    private static void tell(LateMinutes x, int notes, int change, int by) {
         int[] words = new int[5];
         int at = 0;
         for (int i = 0; i < notes; i++) {
             int[] four = {i, x.noteIs(i, 0), x.noteIs(i, 1), x.noteIs(i, 2)};
             for (int w : four) {
-                words[at % 5] = at == change ? w + 256 : w;
+                words[at % 5] = at == change ? w + by : w;
                 if (++at % 5 == 0) x.feed(words[0], words[1], words[2], words[3], words[4]);
             }
         }
@@ -1226,9 +1247,11 @@ public final class EdgesTest extends Asked {
             due("one is lacking", x.check(notes - 1), 4 * notes - 4);
             due("none told", x.check(0), 0);
             for (int change : new int[] {0, 1, 2, 3, 4 * notes - 4, 4 * notes - 1}) {
-                LateMinutes y = cutInto(notes);
-                tell(y, notes, change);
-                due("wrong at " + change, y.check(notes), change);
+                for (int by : new int[] {1, -1, 1 << 8, 1 << 16, 1 << 24, 1 << 31}) {
+                    LateMinutes y = cutInto(notes);
+                    tell(y, notes, change, by);
+                    due("wrong at " + change + " by " + by, y.check(notes), change);
+                }
             }
         }
         LateMinutes x = cutInto(26);

@@ -10,6 +10,7 @@ public final class RefusedTest extends Asked {
         faultsEmptyTheTape();
         checksEmptyTheTape();
         sixtyNotes();
+        moreThanSixtyAtOnce();
         askingChangesNothing();
         objectsAreApart();
         sum();
@@ -232,6 +233,25 @@ public final class RefusedTest extends Asked {
         };
         due("notes", more.make().count(2), 54);
         refused(more, "a 61st", y -> y.settle(1), -2);
+    }
+
+    /** Eight who owe each other, each of whom passes on a part: more than 60 at once. */
+    private static void moreThanSixtyAtOnce() {
+        Town.Build b = () -> {
+            LateMinutes x = new LateMinutes();
+            law(x, "o10(1=1);p50(x>0)");
+            met(x, 0, 500, 255, 550, 500, 500, 500, 500, 500, 500, 500);
+            met(x, 0, 600, 255, 600, 601, 601, 601, 601, 601, 601, 601);
+            return x;
+        };
+        due("no note", b.make().count(2), 0);
+        due("two pay", b.make().chain(1, 1, 2, 0), 2);
+        refused(b, "7 notes of 0 and 91 of the others", x -> x.settle(1), -2);
+        LateMinutes x = b.make();
+        due("98 are too many", x.settle(1), -2);
+        due("still no note", x.count(2), 0);
+        due("none", x.noteIs(0, 0), -1000);
+        due("56 are not", x.settle(0), 56);
     }
 
     private static void asks(Town.Build b, String call, Twins.Call asked) {

@@ -30,6 +30,7 @@ public final class RulesTest {
         checkClasses();
         checkWords();
         checkLengths();
+        checkRecursion();
         System.out.println(wrong == 0 ? "the rules that can be seen hold" : wrong + " rules are broken");
         if (wrong != 0) System.exit(1);
     }
@@ -91,6 +92,21 @@ public final class RulesTest {
         mind(code.replaceAll("import java.util.Arrays;", "").indexOf("import") < 0, "another import");
         mind(source.chars().allMatch(c -> c < 128), "a sign beyond 127");
         mind(code.indexOf("while") < 0, "a loop without a counter");
+    }
+
+    /** A method that calls itself is private and static; others may call one another. */
+    private static void checkRecursion() throws IOException {
+        String source = Files.readString(Path.of("src/main/java/LateMinutes.java"));
+        Matcher m = Pattern.compile("\n( +)((?:\\w+ )*)[\\w\\[\\]]+ (\\w+)\\([^)]*\\) \\{\n").matcher(source);
+        int methods = 0;
+        while (m.find()) {
+            int end = source.indexOf("\n" + m.group(1) + "}", m.end());
+            String body = source.substring(m.end(), end);
+            boolean callsItself = Pattern.compile("(?<![\\w.])" + m.group(3) + "\\(").matcher(body).find();
+            mind(!callsItself || m.group(2).equals("private static "), m.group(3) + " calls itself");
+            methods++;
+        }
+        mind(methods > 150, "only " + methods + " methods were seen");
     }
 
     private static void checkLengths() throws IOException {
