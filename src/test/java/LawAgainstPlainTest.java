@@ -2,6 +2,9 @@ import java.util.Random;
 
 /** Drawn laws, good and bad, read and asked by LateMinutes and by Plain. */
 public final class LawAgainstPlainTest {
+    private static final String[] HEADS = {"", "o", "o1(", "o1(1", "o1(1=", "o1(1=1", "o1(1=1)", "o[[[[[", "o1((((", "o1(!!!!"};
+    private static final String SIGNS = "1w()[]!&|=+;o";
+
     public static void main(String[] args) {
         int runs = args.length > 0 ? Integer.parseInt(args[0]) : 2000;
         for (long seed = 1; seed <= runs; seed++) {
@@ -11,7 +14,36 @@ public final class LawAgainstPlainTest {
                 System.exit(1);
             }
         }
+        for (String head : HEADS) {
+            String wrong = goOn(new StringBuilder(head), 3);
+            if (wrong != null) {
+                System.out.println(wrong);
+                System.exit(1);
+            }
+        }
         System.out.println(runs + " times 18 drawn laws are read and asked as by the plain model");
+    }
+
+    /** Each text of a few signs behind one that is good so far. */
+    private static String goOn(StringBuilder text, int more) {
+        if (text.length() > 0) {
+            LateMinutes is = new LateMinutes();
+            Plain due = new Plain();
+            for (int[] w : LawTexts.words(text.toString())) {
+                is.feed(w[0], w[1], w[2], w[3], w[4]);
+                due.feed(w);
+            }
+            int read = is.law(text.length());
+            int dueRead = due.law(text.length());
+            if (read != dueRead) return text + " read as " + read + ", due is " + dueRead;
+        }
+        for (int i = 0; i < SIGNS.length() && more > 0; i++) {
+            text.append(SIGNS.charAt(i));
+            String wrong = goOn(text, more - 1);
+            if (wrong != null) return wrong;
+            text.setLength(text.length() - 1);
+        }
+        return null;
     }
 
     private static String run(Random random) {
