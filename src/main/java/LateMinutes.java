@@ -341,7 +341,7 @@ public final class LateMinutes {
         return meeting == null ? NONE : meeting.minute;
     }
 
-    /** Whether the law can be asked about x and y in meeting m: all came, both are of it. */
+    /** The law is for two of a meeting, and only once all came: till then w and g are open. */
     private boolean isCase(int m, int x, int y) {
         Meeting meeting = meetings.find(m);
         if (meeting == null || x == y || !meeting.includes(x) || !meeting.includes(y)) return false;
@@ -371,7 +371,7 @@ public final class LateMinutes {
         return facts;
     }
 
-    /** Makes the notes of the chain that was followed; false when there is no room for them. */
+    /** False where there is no room for all: who asks takes back what was made. */
     private boolean noteChain(int y, int[] facts) {
         int days = daysToLapse(facts);
         int lapses = days == 0 ? NONE : now + days;
@@ -834,7 +834,7 @@ public final class LateMinutes {
             return includes(p) && p < comings.length ? comings[p] : NONE;
         }
 
-        /** The minute at which it begins; none while somebody is awaited. */
+        /** None while somebody is awaited: he may come last. */
         int start() {
             int latest = minute;
             for (int p = 0; p < comings.length; p++) {
@@ -845,7 +845,7 @@ public final class LateMinutes {
             return latest;
         }
 
-        /** Who came last, of like ones the lowest. */
+        /** Of like ones the lowest, so only who came later takes the place of another. */
         int keeper() {
             int last = NONE;
             int latest = NONE;
@@ -939,7 +939,7 @@ public final class LateMinutes {
             return meeting == null ? NONE : meeting.keeper();
         }
 
-        /** The meeting by which x was kept for meeting m: the latest, then the highest. */
+        /** Gone through by numbers, so of like minutes the last one seen has the highest number. */
         int keptBy(int m, int x) {
             Meeting asked = find(m);
             if (asked == null || asked.lateness(x) == 0) return NONE;
@@ -986,7 +986,7 @@ public final class LateMinutes {
             if (place >= 0 && place < facts.length) facts[place] = value;
         }
 
-        /** From the one who is to owe back along those who kept, till nothing is passed on. */
+        /** Goes back in the day: who kept somebody was perhaps kept himself. */
         void follow(int m, int x, int minutes, int hundredths) {
             int meeting = m;
             int payer = x;
@@ -1071,7 +1071,7 @@ public final class LateMinutes {
             return holds(i) ? lapses[i] : NONE;
         }
 
-        /** With minutes, and not lapsed on that day. */
+        /** Of any day, since minutes are called in on days ahead, too. */
         boolean isLive(int i, int day) {
             return holds(i) && minutes[i] > 0 && (lapses[i] == NONE || day < lapses[i]);
         }
@@ -1128,7 +1128,7 @@ public final class LateMinutes {
             return used;
         }
 
-        /** The place of the first number that is not as the live notes have it. */
+        /** A number too many is as wrong as one that is lacking: both are told at their place. */
         int firstWrong(Tape tape, int fours, int now) {
             int place = 0;
             for (int i = 0; i < size && i < NOTES; i++) {
@@ -1383,7 +1383,7 @@ public final class LateMinutes {
             return sum;
         }
 
-        /** Person by person: the weights by which so many of those gone through are late. */
+        /** Person by person, since the ends of eight ways meet in too many ways to go through them. */
         private void countLate(int bits, int ahead, int state) {
             Arrays.fill(late, 0);
             late[0] = 1;
@@ -1552,7 +1552,7 @@ public final class LateMinutes {
             return p >= 0 && p < aheads.length ? aheads[p] : NONE;
         }
 
-        /** How many turns it took, the last one without a change. */
+        /** The last turn counts, too: it alone shows that nobody changes. */
         int comeToRest(Meeting meeting, int price) {
             Arrays.fill(aheads, 0);
             for (int turn = 1; turn <= REST_TURNS; turn++) {
